@@ -570,7 +570,8 @@ public final class LeastCurves {
 
         /** d times the value of a term at (x / d, y / d). */
         private int worth(int place, int x, int y, int d) {
-            return d * at(place) + place / WIDTH * x + place % WIDTH * y;
+            int own = place >= 0 && place < c.length ? c[place] : 0;
+            return d * own + place / WIDTH * x + place % WIDTH * y;
         }
 
         int least(int x, int y, int d) {
@@ -587,11 +588,17 @@ public final class LeastCurves {
         }
 
         int leading(int x, int y, int d) {
-            int least = least(x, y, d);
             int set = 0;
+            int least = 0;
             for (int k = 0; k < c.length; k++) {
-                if (c[k] != NONE && worth(k, x, y, d) == least) {
-                    set |= 1 << k;
+                if (c[k] != NONE) {
+                    int worth = worth(k, x, y, d);
+                    if (set == 0 || worth < least) {
+                        least = worth;
+                        set = 1 << k;
+                    } else if (worth == least) {
+                        set |= 1 << k;
+                    }
                 }
             }
             return set;
@@ -1133,7 +1140,7 @@ public final class LeastCurves {
         }
 
         boolean isBounded() {
-            return ends() == 2;
+            return end != NONE;
         }
 
         boolean touches(int corner) {
