@@ -190,6 +190,9 @@ public final class ShapeTest {
         check.due("it is not hidden", x.region(0, 1, 1, 0), 1);
         x.put(0, 1, 1, -1);
         check.due("one more hides it", x.region(0, 1, 1, 0), 0);
+        check.due("below 5 / 3, the second and third next to each other", Check.made("0:3+2y,1+3x,1+3x+y").lift(0, 2, 1), 1);
+        check.due("below 17 / 4", Check.made("0:6,4+x+3y,1+3x+y").lift(0, 1, 1), 4);
+        check.due("below 7 / 2", Check.made("0:4,5+x+2y,2+2x+y,9+x").lift(0, 1, 1), 3);
         check.due("of a segment and a triangle the lower", Check.made("0:-9,6+3x,3y,-8+2x+2y").lift(0, 1, 1), -9);
         check.due("no other term", Check.made("0:5+x").lift(0, 1, 0), 999);
     }
@@ -225,6 +228,11 @@ public final class ShapeTest {
         check.due("no vertex to MOST", x.way(0, 0, MOST, 0), UNKNOWN);
         check.due("what -1", x.way(0, 0, 0, -1), OUTSIDE);
         check.due("what 3", x.way(0, 0, 0, 3), OUTSIDE);
+        LeastCurves first = Check.made("0:y,-1+x+y,2x,1+2x+2y");
+        check.row("the first edge is bounded", w -> first.edge(0, 0, w), 1, 6, 1, 1, 2, 0, 1, 5, 1, 0);
+        check.row("it counts for the region", w -> first.region(0, 1, 1, w), 1, 3, 10, 1);
+        check.row("and for ways: both ways are 5 long", w -> first.way(0, 1, 2, w), 5, 1, 1);
+        check.due("and against bridges", first.count(0, 7), 0);
         check.due("no terms", x.way(1, 0, 0, 0), UNKNOWN);
     }
 

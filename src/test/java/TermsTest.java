@@ -180,6 +180,15 @@ public final class TermsTest {
         check.due("the other stays", x.count(0, 0), 2);
         check.due("times(2)", x.times(2), UNKNOWN);
         check.due("times(-1)", x.times(-1), UNKNOWN);
+        x.join(0);
+        x.mirror(1);
+        check.due("mirror makes no more", x.count(1, 0), 5);
+        x.drop(0, 1, 0);
+        x.drop(0, 2, 0);
+        x.drop(0, 0, 1);
+        x.drop(0, 1, 1);
+        check.due("times a number", x.times(1), 5);
+        check.due("(0, 1) is 4 + 1 then", x.term(1, 0, 1), 5);
         check.due("no terms in 1", Check.made("0:1").times(0), NOT);
         check.due("no terms in 0", Check.made("1:1").times(0), NOT);
         check.due("no place", Check.made("0:2x+y;1:2y").times(0), NOT);

@@ -213,6 +213,11 @@ public final class TextTest {
         fault(full.toString(), NONE);
         full.setCharAt(199, ',');
         fault(full.toString(), 200);
+        StringBuilder tokens = new StringBuilder("0:-1");
+        while (tokens.length() < 200) {
+            tokens.append(",x");
+        }
+        fault(tokens.toString(), NONE);
         StringBuilder digits = new StringBuilder("0:");
         while (digits.length() < 200) {
             digits.append('9');
@@ -247,6 +252,11 @@ public final class TextTest {
         check.due("each clause takes all away", x.count(1, 0), 1);
         check.due("curve 0", x.count(0, 0), 2);
         check.due("curve 0 at (0, 0)", x.term(0, 0, 0), 2);
+        x.put(1, 4, 0, 4);
+        check.due("only curve 0 is named", Check.write(x, "0:3").curves(), 1);
+        check.due("curve 1 stays", x.count(1, 0), 2);
+        check.due("only curve 1 is named", Check.write(x, "1:3").curves(), 1);
+        check.due("curve 0 stays", x.term(0, 0, 0), 3);
         check.due("24 clauses", Check.write(x, clauses(24)).curves(), 24);
         check.due("the last of them", x.term(1, 0, 0), 23);
         check.due("three of a place", Check.made("0:2,1,3").term(0, 0, 0), 1);
