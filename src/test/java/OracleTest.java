@@ -18,8 +18,9 @@ public final class OracleTest {
 
     public static void main(String[] args) {
         int runs = args.length > 0 ? Integer.parseInt(args[0]) : 60;
-        for (int seed = 1; seed <= runs && !check.hasWrong(); seed++) {
-            new OracleTest(seed).run();
+        int first = args.length > 1 ? Integer.parseInt(args[1]) : 1;
+        for (int run = 0; run < runs && !check.hasWrong(); run++) {
+            new OracleTest(first + run).run();
         }
         check.end("OracleTest");
     }
