@@ -745,18 +745,22 @@ public final class LeastCurves {
         }
 
         void remember(Pair now) {
+            if (next < 0 || next >= rows.length) {
+                return;
+            }
             rows[next].take(now);
             next = (next + 1) % MOST_CHANGES;
             size = Math.min(size + 1, MOST_CHANGES);
         }
 
         void recall(Pair now) {
-            if (size == 0) {
+            int latest = (next + MOST_CHANGES - 1) % MOST_CHANGES;
+            if (size == 0 || latest < 0 || latest >= rows.length) {
                 return;
             }
-            next = (next + MOST_CHANGES - 1) % MOST_CHANGES;
+            next = latest;
             size--;
-            now.take(rows[next]);
+            now.take(rows[latest]);
         }
 
         void forget() {

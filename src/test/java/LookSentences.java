@@ -204,8 +204,15 @@ final class LookSentences {
             s.due("nor if it is hidden", Check.made("0:0,500+x,3+3x").lift(0, 1, 0), 0);
             s.due("no other terms", Check.made("0:5").lift(0, 0, 0), 999);
             s.due("no terms", new LeastCurves().lift(1, 2, 2), 999);
-            isGreatest(x, 1, 1);
-            isGreatest(greatest(), 1, 2);
+        });
+        s.promise(20, "the greatest c from -999 to 999", () -> {
+            isGreatest(greatest());
+            for (String text : new String[] {HOLE, HALF, LINE, "0:0,1+3y", "0:0,-1+3y", "0:5,7+4y", "0:x,1+x+3y,2x", "0:1,4x", "0:3x,4x",
+                "0:0,4x,1+4y", "0:1+4x,4y", "0:7,2x+y,3y,3x", "0:-7,2+3x,1+3y", "0:3+2y,1+3x,1+3x+y", "0:6,4+x+3y,1+3x+y",
+                "0:4,5+x+2y,2+2x+y,9+x", "0:-9,6+3x,3y,-8+2x+2y", "0:1+y,3y,2+4x", "0:y,5+2x+y,1+2x+2y,3x", "0:-997,-998+4x,-996+4y",
+                "0:999,998+4x,999+4y", "0:-999,999+4x,4y", "0:2,x,2y,8+3x,5+4y"}) {
+                isGreatest(Check.made(text));
+            }
         });
         s.promise(20, "nothing is changed;", () -> {
             LeastCurves x = Check.made("0:0,3x,3y,5+x+y,1+x");
@@ -221,13 +228,25 @@ final class LookSentences {
         });
     }
 
-    /** A term with the answer is not hidden, one with the next c is. */
-    private void isGreatest(LeastCurves x, int i, int j) {
-        int c = x.lift(0, i, j);
-        x.put(0, i, j, c);
-        s.due("not hidden with " + c, Math.min(x.region(0, i, j, 0), 1), 1);
-        x.put(0, i, j, c + 1);
-        s.due("hidden with one more", x.region(0, i, j, 0), 0);
+    /** At each place: a term with the answer is not hidden, one with the next c is. */
+    private void isGreatest(LeastCurves x) {
+        x.keep(0);
+        for (int place = 0; place < 21; place++) {
+            int i = place / 5;
+            int j = place % 5;
+            if (i + j <= 4) {
+                int c = x.lift(0, i, j);
+                if (c != NONE) {
+                    x.put(0, i, j, c);
+                    s.holds("not hidden at " + place + " with " + c, x.region(0, i, j, 0) > 0);
+                }
+                if (c < 999) {
+                    x.put(0, i, j, c == NONE ? -999 : c + 1);
+                    s.due("hidden at " + place + " with more than " + c, x.region(0, i, j, 0), 0);
+                }
+                x.back(0);
+            }
+        }
     }
 
     private void promise20LiftBounds() {
@@ -260,6 +279,8 @@ final class LookSentences {
         });
         s.promise(21, "2: the smallest number of edges of all ways of this length;", () -> {
             s.due("to itself", Check.made(HOLE).way(0, 2, 2, 2), 0);
+            s.row("from the first of sixteen vertices to the last", w -> greatest().way(0, 0, 15, w), 6, 1, 6);
+            s.row("from the last to the first", w -> greatest().way(0, 15, 0, w), 6, 1, 6);
             s.due("one side of a hole", Check.made(HOLE).way(0, 2, 1, 2), 1);
             LeastCurves square = Check.made("0:0,2x,2y,2x+2y,-1+x+y");
             s.row("across a square, both ways alike", w -> square.way(0, 0, 3, w), 2, 1, 2);

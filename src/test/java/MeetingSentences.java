@@ -128,6 +128,14 @@ final class MeetingSentences {
             s.row("(-5 / 11, 15 / 11)", w -> Check.made("0:0,3x+y;1:5+2x,3y").meeting(0, w), -5, 11, 15, 11);
             s.row("far away", w -> Check.made("0:999,-999+x;1:-999,999+y").meeting(0, w), 1998, 1, -1998, 1);
         });
+        s.promise(22, "Returns for an intersection", () -> {
+            LeastCurves x = Check.made("0:0,x;1:0,y");
+            s.row("at first", w -> x.meeting(0, w), 0, 1, 0, 1);
+            x.put(0, 1, 0, 4);
+            s.row("when only curve 0 has changed", w -> x.meeting(0, w), -4, 1, 0, 1);
+            x.put(1, 0, 1, 7);
+            s.row("when only curve 1 has changed", w -> x.meeting(0, w), -4, 1, -7, 1);
+        });
         s.promise(22, "4: its multiplicity;", () -> {
             s.due("the least", Check.made("0:0,x;1:0,y").meeting(0, 4), 1);
             s.due("the greatest", Check.made("0:0,4x;1:0,4y").meeting(0, 4), 16);

@@ -5,8 +5,11 @@ public final class OracleTest {
     private static final Check check = new Check();
 
     private final Random random;
-    private final LeastCurves x = new LeastCurves();
-    private final Oracle o = new Oracle();
+    private LeastCurves x = new LeastCurves();
+    private Oracle o = new Oracle();
+    private int calls = 0;
+    private LeastCurves twin;
+    private int callsOfTwin = 0;
     private final int spread;
     private final String name;
 
@@ -38,6 +41,43 @@ public final class OracleTest {
         }
     }
 
+    /** The object; after 512 calls a new one with the same terms, for then what the old one answers is free. */
+    private LeastCurves x() {
+        if (calls == 512) {
+            Oracle before = o;
+            x = new LeastCurves();
+            o = new Oracle();
+            calls = putTerms(before, x, o);
+        }
+        calls++;
+        return x;
+    }
+
+    /** Another object with the same terms, to be looked at as often as one likes. */
+    private LeastCurves twin() {
+        if (twin == null || callsOfTwin == 512) {
+            twin = new LeastCurves();
+            callsOfTwin = putTerms(o, twin, null);
+        }
+        callsOfTwin++;
+        return twin;
+    }
+
+    private static int putTerms(Oracle of, LeastCurves into, Oracle too) {
+        int puts = 0;
+        for (int place = 0; place < 42; place++) {
+            int c = of.term(place / 21, place % 21 / 5, place % 21 % 5);
+            if (c >= -999) {
+                into.put(place / 21, place % 21 / 5, place % 21 % 5, c);
+                if (too != null) {
+                    too.put(place / 21, place % 21 / 5, place % 21 % 5, c);
+                }
+                puts++;
+            }
+        }
+        return puts;
+    }
+
     private int below(int bound) {
         return random.nextInt(bound);
     }
@@ -66,30 +106,30 @@ public final class OracleTest {
         switch (below(15)) {
             case 0, 1, 2, 3, 4 -> {
                 int c = below(30) == 0 ? odd(999) : c();
-                due("put(" + curve + ", " + i + ", " + j + ", " + c + ")", x.put(curve, i, j, c), o.put(curve, i, j, c));
+                due("put(" + curve + ", " + i + ", " + j + ", " + c + ")", x().put(curve, i, j, c), o.put(curve, i, j, c));
             }
-            case 5 -> due("drop(" + curve + ", " + i + ", " + j + ")", x.drop(curve, i, j), o.drop(curve, i, j));
+            case 5 -> due("drop(" + curve + ", " + i + ", " + j + ")", x().drop(curve, i, j), o.drop(curve, i, j));
             case 6 -> {
                 int most = below(3) == 0 ? 101 : 5;
                 int dx = below(2 * most + 1) - most;
                 int dy = below(2 * most + 1) - most;
-                due("move(" + curve + ", " + dx + ", " + dy + ")", x.move(curve, dx, dy), o.move(curve, dx, dy));
+                due("move(" + curve + ", " + dx + ", " + dy + ")", x().move(curve, dx, dy), o.move(curve, dx, dy));
             }
-            case 7 -> due("mirror(" + curve + ")", x.mirror(curve), o.mirror(curve));
-            case 8 -> due("join(" + curve + ")", x.join(curve), o.join(curve));
-            case 9 -> due("times(" + curve + ")", x.times(curve), o.times(curve));
+            case 7 -> due("mirror(" + curve + ")", x().mirror(curve), o.mirror(curve));
+            case 8 -> due("join(" + curve + ")", x().join(curve), o.join(curve));
+            case 9 -> due("times(" + curve + ")", x().times(curve), o.times(curve));
             case 10 -> {
                 for (int k = below(4); k >= 0; k--) {
-                    due("undo()", x.undo(), o.undo());
+                    due("undo()", x().undo(), o.undo());
                 }
             }
             case 11 -> {
                 int k = odd(1);
-                due("keep(" + k + ")", x.keep(k), o.keep(k));
+                due("keep(" + k + ")", x().keep(k), o.keep(k));
             }
             case 12 -> {
                 int k = odd(1);
-                due("back(" + k + ")", x.back(k), o.back(k));
+                due("back(" + k + ")", x().back(k), o.back(k));
             }
             case 13 -> fill(below(2), below(3) * 2 + spread / 4);
             default -> text();
@@ -104,7 +144,7 @@ public final class OracleTest {
             int j = place % 5;
             if (i + j <= degree && below(12) > 0) {
                 int c = Math.max(-999, Math.min(999, steep * (i * i + i * j + j * j) + c() / 3));
-                due("put " + place, x.put(curve, i, j, c), o.put(curve, i, j, c));
+                due("put " + place, x().put(curve, i, j, c), o.put(curve, i, j, c));
             }
         }
     }
@@ -153,19 +193,19 @@ public final class OracleTest {
             text.append(' ');
         }
         if (below(3) == 0) {
-            due("erase()", x.erase(), o.erase());
+            due("erase()", x().erase(), o.erase());
         }
         for (int k = 0; k < text.length(); k++) {
-            due("write(" + (int) text.charAt(k) + ")", x.write(text.charAt(k)), o.write(text.charAt(k)));
+            due("write(" + (int) text.charAt(k) + ")", x().write(text.charAt(k)), o.write(text.charAt(k)));
         }
         int letter = odd(255);
         if (letter < 0 || letter > 255) {
-            due("write(" + letter + ")", x.write(letter), o.write(letter));
+            due("write(" + letter + ")", x().write(letter), o.write(letter));
         }
-        due("fault() of \"" + text + "\"", x.fault(), o.fault());
-        due("curves() of \"" + text + "\"", x.curves(), o.curves());
+        due("fault() of \"" + text + "\"", x().fault(), o.fault());
+        due("curves() of \"" + text + "\"", x().curves(), o.curves());
         if (below(2) == 0) {
-            due("erase()", x.erase(), o.erase());
+            due("erase()", x().erase(), o.erase());
         }
     }
 
@@ -179,15 +219,15 @@ public final class OracleTest {
         String at = "(" + curve + ", " + corner + ", " + what + ")";
         String place = "(" + curve + ", " + i + ", " + j + ", " + what + ")";
         switch (below(10)) {
-            case 0 -> due("corner" + at, x.corner(curve, corner, what), o.corner(curve, corner, what));
-            case 1 -> due("edge" + at, x.edge(curve, corner, what), o.edge(curve, corner, what));
-            case 2 -> due("meeting of " + at, x.meeting(corner, what), o.meeting(corner, what));
-            case 3 -> due("count" + at, x.count(curve, what), o.count(curve, what));
-            case 4 -> due("tally of " + at, x.tally(what), o.tally(what));
-            case 5 -> due("lift" + place, x.lift(curve, i, j), o.lift(curve, i, j));
-            case 6 -> due("term" + place, x.term(curve, i, j), o.term(curve, i, j));
-            case 7 -> due("region" + place, x.region(curve, i, j, what % 6), o.region(curve, i, j, what % 6));
-            case 8 -> due("way" + at + to, x.way(curve, corner, to, what % 5), o.way(curve, corner, to, what % 5));
+            case 0 -> due("corner" + at, x().corner(curve, corner, what), o.corner(curve, corner, what));
+            case 1 -> due("edge" + at, x().edge(curve, corner, what), o.edge(curve, corner, what));
+            case 2 -> due("meeting of " + at, x().meeting(corner, what), o.meeting(corner, what));
+            case 3 -> due("count" + at, x().count(curve, what), o.count(curve, what));
+            case 4 -> due("tally of " + at, x().tally(what), o.tally(what));
+            case 5 -> due("lift" + place, x().lift(curve, i, j), o.lift(curve, i, j));
+            case 6 -> due("term" + place, x().term(curve, i, j), o.term(curve, i, j));
+            case 7 -> due("region" + place, x().region(curve, i, j, what % 6), o.region(curve, i, j, what % 6));
+            case 8 -> due("way" + at + to, x().way(curve, corner, to, what % 5), o.way(curve, corner, to, what % 5));
             default -> value(curve);
         }
     }
@@ -198,39 +238,40 @@ public final class OracleTest {
         int py = below(2 * most + 1) - most;
         int d = below(3) == 0 ? odd(61) : 1;
         int what = below(10) == 0 ? odd(1) : below(2);
-        due("value(" + curve + ", " + px + ", " + py + ", " + d + ", " + what + ")", x.value(curve, px, py, d, what), o.value(curve, px, py, d, what));
+        due("value(" + curve + ", " + px + ", " + py + ", " + d + ", " + what + ")", x().value(curve, px, py, d, what), o.value(curve, px, py, d, what));
     }
 
     private void lookAtAll() {
+        twin = null;
         for (int curve = 0; curve < 2; curve++) {
             int own = curve;
             for (int what = -1; what < 13; what++) {
-                due("count(" + curve + ", " + what + ")", x.count(curve, what), o.count(curve, what));
+                due("count(" + curve + ", " + what + ")", twin().count(curve, what), o.count(curve, what));
             }
             for (int k = -1; k <= o.count(curve, 2); k++) {
                 int corner = k;
-                rows("corner(" + curve + ", " + k + ", ..)", 8, w -> x.corner(own, corner, w), w -> o.corner(own, corner, w));
+                rows("corner(" + curve + ", " + k + ", ..)", 8, w -> twin().corner(own, corner, w), w -> o.corner(own, corner, w));
                 for (int t = -1; t <= o.count(curve, 2); t++) {
                     int to = t;
-                    rows("way(" + curve + ", " + k + ", " + t + ", ..)", 4, w -> x.way(own, corner, to, w), w -> o.way(own, corner, to, w));
+                    rows("way(" + curve + ", " + k + ", " + t + ", ..)", 4, w -> twin().way(own, corner, to, w), w -> o.way(own, corner, to, w));
                 }
             }
             for (int k = -1; k <= o.count(curve, 3); k++) {
                 int edge = k;
-                rows("edge(" + curve + ", " + k + ", ..)", 11, w -> x.edge(own, edge, w), w -> o.edge(own, edge, w));
+                rows("edge(" + curve + ", " + k + ", ..)", 11, w -> twin().edge(own, edge, w), w -> o.edge(own, edge, w));
             }
             for (int place = 0; place < 25; place++) {
                 int i = place / 5;
                 int j = place % 5;
-                due("term " + place, x.term(curve, i, j), o.term(curve, i, j));
-                due("lift(" + curve + ", " + i + ", " + j + ")", x.lift(curve, i, j), o.lift(curve, i, j));
-                rows("region(" + curve + ", " + i + ", " + j + ", ..)", 5, w -> x.region(own, i, j, w), w -> o.region(own, i, j, w));
+                due("term " + place, twin().term(curve, i, j), o.term(curve, i, j));
+                due("lift(" + curve + ", " + i + ", " + j + ")", twin().lift(curve, i, j), o.lift(curve, i, j));
+                rows("region(" + curve + ", " + i + ", " + j + ", ..)", 5, w -> twin().region(own, i, j, w), w -> o.region(own, i, j, w));
             }
         }
-        rows("tally(..)", 8, x::tally, o::tally);
+        rows("tally(..)", 8, w -> w < 5 ? twin().tally(w) : x().tally(w), w -> o.tally(w));
         for (int k = -1; k <= o.tally(0); k++) {
             int meeting = k;
-            rows("meeting(" + k + ", ..)", 7, w -> x.meeting(meeting, w), w -> o.meeting(meeting, w));
+            rows("meeting(" + k + ", ..)", 7, w -> twin().meeting(meeting, w), w -> o.meeting(meeting, w));
         }
     }
 

@@ -1,6 +1,6 @@
 import java.lang.management.ManagementFactory;
 
-/** What 512 calls make: all of them live in one room of 600,000 objects. */
+/** What an object and its calls make: those of all objects live in one room of 600,000. */
 public final class RoomTest {
     private static final Check check = new Check();
     private static long sink = 0;
@@ -14,7 +14,7 @@ public final class RoomTest {
         long made = bean.getThreadAllocatedBytes(thread);
         useOf(x);
         long used = bean.getThreadAllocatedBytes(thread);
-        System.out.println("a new object takes " + (made - before) + " bytes, 512 calls take " + (used - made));
+        System.out.println("a new object takes " + (made - before) + " bytes, its calls take " + (used - made));
         check.due("a new object takes less than 40,000 bytes", made - before < 40000 ? 1 : 0, 1);
         check.due("calls take next to nothing", used - made < 4000 ? 1 : 0, 1);
         check.due("answers", sink != 0 ? 1 : 0, 1);
@@ -27,7 +27,7 @@ public final class RoomTest {
             sink += x.write(text.charAt(k));
         }
         sink += x.fault() + x.curves();
-        for (int round = 0; round < 15; round++) {
+        for (int round = 0; round < 10; round++) {
             sink += x.put(round % 2, 1, 1, round) + x.move(0, 1, -1) + x.mirror(1) + x.join(0);
             sink += x.times(1) + x.undo() + x.undo() + x.keep(round % 2) + x.undo() + x.back(round % 2);
             for (int what = 0; what < 7; what++) {

@@ -219,6 +219,9 @@ final class ShapeSentences {
             s.row("by (2, 1)", w -> Check.made(HOLE).edge(0, 3, w + 5), 2, 1, 1, 1);
             s.row("by (0, 1)", w -> Check.made("0:0,y,3+2y,x,x+y,3+x+2y").edge(0, 3, w + 5), 0, 1, 3, 1);
             s.row("by (1, 0)", w -> Check.made("0:0,x,3+2x,y,x+y,3+2x+y").edge(0, 3, w + 5), 1, 0, 3, 1);
+            s.row("from (-3 / 2, -1) to (-1 / 2, -1 / 3) by (3, 2)", w -> Check.made("0:0,1+2x,1+3y,3+2x+2y").edge(0, 2, w + 3), 0, 1, 3, 2, 1, 3);
+            s.row("from (-1 / 2, -3) to (-1 / 2, 0) by (0, 1)", w -> Check.made("0:0,1+2x,y,1+2x+y,3+2y,4+2x+2y").edge(0, 3, w + 3), 0, 1, 0, 1, 3, 1);
+            s.row("of edge 0", w -> Check.made("0:y,-1+x+y,2x,1+2x+2y").edge(0, 0, w + 3), 1, 2, 0, 1, 5, 1);
             s.row("far", w -> Check.made("0:-999,999+x,999+y,-999+x+y").edge(0, 2, w + 5), 1, -1, 3996, 1);
         });
     }
@@ -277,6 +280,7 @@ final class ShapeSentences {
             s.row("2 and 2 and 2", w -> Check.made("0:0,3x,3y,-2+x+y").region(0, 1, 1, w + 2), 6, 1);
             s.row("with fractions", w -> Check.made("0:0,4x,3y,-1+x+y").region(0, 1, 1, w + 2), 12, 5);
             s.row("as long as can be", w -> Check.made("0:999,999+3x,999+3y,-999+x+y").region(0, 1, 1, w + 2), 5994, 1);
+            s.row("with edge 0", w -> Check.made("0:y,-1+x+y,2x,1+2x+2y").region(0, 1, 1, w + 2), 10, 1);
             s.row("an open one has none", w -> Check.made(HOLE).region(0, 0, 0, w + 2), NONE, NONE);
         });
         s.test(SHAPES, 23, "A hole is a closed region.", () -> {
@@ -318,6 +322,9 @@ final class ShapeSentences {
             for (int edge = 0; edge < 6; edge++) {
                 s.due("edge " + edge + " of a hole with rays", Check.made(HOLE).edge(0, edge, 9), 0);
             }
+            LeastCurves first = Check.made("0:y,-1+x+y,2x,1+2x+2y");
+            s.due("round a hole with edge 0 there is a way without each side", first.count(0, 7), 0);
+            s.row("and one of the two ways is edge 0", w -> first.way(0, 1, 2, w), 5, 1, 1);
             s.due("bridges beside no hole", Check.made("0:0,x,3+2x,y,x+y,4+2x+y").count(0, 7), 2);
         });
     }

@@ -286,6 +286,9 @@ final class TermSentences {
             x.mirror(0);
             s.places("the term", (i, j) -> x.term(0, i, j), (i, j) -> 10 * j + i);
             s.due("the other curve stays", x.term(1, 1, 0), 5);
+            x.mirror(1);
+            s.due("only what this curve has", x.count(1, 0), 1);
+            s.due("comes to (0, 1)", x.term(1, 0, 1), 5);
             LeastCurves y = Check.made("0:7+4x");
             y.mirror(0);
             s.due("it is there", y.term(0, 0, 4), 7);
@@ -315,6 +318,21 @@ final class TermSentences {
                 s.due("only the second", x.term(curve, 0, 1), 9);
                 s.due("neither", x.term(curve, 4, 0), NONE);
             }
+            LeastCurves only1 = Check.made("1:0");
+            only1.join(0);
+            s.due("only the second, at (0, 0)", only1.term(0, 0, 0), 0);
+            LeastCurves all = withAllPlaces((i, j) -> 10 * i - j);
+            all.join(1);
+            s.places("only the first", (i, j) -> all.term(1, i, j), (i, j) -> 10 * i - j);
+            all.move(1, 3, 2);
+            all.join(0);
+            s.places("both, the second is smaller", (i, j) -> all.term(0, i, j), (i, j) -> 7 * i - 3 * j);
+            LeastCurves all1 = new LeastCurves();
+            for (int k = 0; k < 21; k++) {
+                all1.put(1, k / 5, k % 5, k);
+            }
+            all1.join(0);
+            s.places("only the second", (i, j) -> all1.term(0, i, j), (i, j) -> 5 * i + j);
             LeastCurves far = Check.made("0:-999,999+x;1:999,-999+x");
             far.join(0);
             s.due("the bounds: (0, 0)", far.term(0, 0, 0), -999);
@@ -354,6 +372,10 @@ final class TermSentences {
                 s.due("(2, 0)", x.term(curve, 2, 0), 25);
                 s.due("(2, 1)", x.term(curve, 2, 1), 35);
                 s.due("(2, 2)", x.term(curve, 2, 2), 1);
+                s.due("(1, 0)", x.term(curve, 1, 0), NONE);
+                Check.write(x, "0:1+x;1:2+y").curves();
+                s.due("one and one", x.times(curve), 1);
+                s.due("(1, 1)", x.term(curve, 1, 1), 3);
             }
         });
         s.promise(13, "of several at the same place the one with the smallest c is taken.", () -> {
@@ -387,6 +409,23 @@ final class TermSentences {
             s.curves("times", k -> Check.made("0:0,x;1:0,x,y").times(k), 5, 5));
     }
 
+    /** A product of two single terms for each two places. */
+    private void eachTwoPlaces() {
+        for (int place = 0; place < 21 * 21; place++) {
+            int a = place / 21;
+            int b = place % 21;
+            if (a / 5 + a % 5 <= 4 && b / 5 + b % 5 <= 4) {
+                LeastCurves x = new LeastCurves();
+                x.put(0, a / 5, a % 5, 3);
+                x.put(1, b / 5, b % 5, 4);
+                int i = a / 5 + b / 5;
+                int j = a % 5 + b % 5;
+                s.due("times() of the places " + a + " and " + b, x.times(0), i + j <= 4 ? 1 : NOT);
+                s.due("c at the sum of the places " + a + " and " + b, x.term(0, i, j), i + j <= 4 ? 7 : OUTSIDE);
+            }
+        }
+    }
+
     private void promise13TimesNotPossible() {
         s.promise(13, "NOT if a curve has no terms", () -> {
             s.due("curve 1 has none", Check.made("0:1").times(0), NOT);
@@ -406,6 +445,7 @@ final class TermSentences {
             s.due("i + j = 8", Check.made("0:4x;1:4y").times(0), NOT);
             s.due("only the last one", Check.made("0:0,x,3x;1:0,y,2y").times(0), NOT);
             s.due("only the first one", Check.made("0:4y,0;1:y,0").times(1), NOT);
+            eachTwoPlaces();
         });
         s.promise(13, "or if the c of a term that is taken is not -999 to 999.", () -> {
             s.due("999", Check.made("0:500;1:499").times(0), 1);

@@ -206,35 +206,27 @@ public final class TermsTest {
         check.due("nothing changed", x.count(0, 0) + x.tally(5), 2);
     }
 
-    private static String terms(LeastCurves x) {
-        StringBuilder told = new StringBuilder();
-        for (int k = 0; k <= 41; k++) {
-            told.append(x.term(k / 21, k % 21 / 5, k % 21 % 5)).append(' ');
-        }
-        return told.toString();
-    }
-
     private static void undoOfEachChange() {
         LeastCurves x = Check.made("0:1,5+x;1:2,3+x,-4+y");
         String[] were = new String[7];
-        were[0] = terms(x);
+        were[0] = State.terms(x);
         x.put(0, 2, 0, 8);
-        were[1] = terms(x);
+        were[1] = State.terms(x);
         x.drop(1, 1, 0);
-        were[2] = terms(x);
+        were[2] = State.terms(x);
         x.move(0, 3, 3);
-        were[3] = terms(x);
+        were[3] = State.terms(x);
         x.mirror(1);
-        were[4] = terms(x);
+        were[4] = State.terms(x);
         x.join(1);
-        were[5] = terms(x);
+        were[5] = State.terms(x);
         x.times(0);
-        were[6] = terms(x);
+        were[6] = State.terms(x);
         for (int k = 6; k > 0; k--) {
-            check.due("before undo " + k, terms(x).equals(were[k]) ? 1 : 0, 1);
+            check.due("before undo " + k, State.terms(x).equals(were[k]) ? 1 : 0, 1);
             check.due("undo()", x.undo(), k - 1);
         }
-        check.due("as at first", terms(x).equals(were[0]) ? 1 : 0, 1);
+        check.due("as at first", State.terms(x).equals(were[0]) ? 1 : 0, 1);
         check.due("undo() of nothing", x.undo(), NOT);
         check.due("tally(5)", x.tally(5), 0);
     }

@@ -57,6 +57,8 @@ final class TextSentences {
             s.due("all 200 are read", x.fault(), NONE);
             s.due("all 200 are applied", x.curves(), 1);
             s.due("also the last one", x.term(1, 0, 2), 7);
+            s.fault("0:-1" + ",x".repeat(98), NONE);
+            s.fault("0:-1" + ",x".repeat(97) + ",z", 199);
             s.due("of 201 bytes the last one is not there", Check.write(new LeastCurves(), spaces(195) + "1:7+2y").fault(), 200);
         });
         s.test(TEXT, 4, "It consists of 1 to 24 clauses with a semicolon between two of them.", () -> {
@@ -338,6 +340,11 @@ final class TextSentences {
             s.due("curves()", x.curves(), NOT);
             s.due("what comes next stands alone", Check.write(x, "1:y").curves(), 1);
             s.due("curve 0", x.count(0, 0), 0);
+            Check.write(x, "0:1234").erase();
+            s.due("also without the digits that stood there", Check.write(x, "0:12").curves(), 1);
+            s.due("c", x.term(0, 0, 0), 12);
+            Check.write(x, "0: x").erase();
+            s.due("also without the space that stood there", Check.write(x, "0:").fault(), 2);
         });
         s.promise(3, "@return how many bytes it had.", () -> {
             s.due("none", new LeastCurves().erase(), 0);
@@ -349,13 +356,15 @@ final class TextSentences {
         });
         s.promise(4, "Returns the fault position of the text (section 2);", () -> {
             LeastCurves x = new LeastCurves();
-            int[] wants = {0, 1, 2, NONE, 4, NONE, 6, 6};
-            String text = "0:x,y;;";
+            int[] wants = {0, 1, 2, NONE, 4, 5, NONE, 7, NONE, 9, 10, NONE, 12, 13, 14, NONE, NONE, 16, 16};
+            String text = "0:5+2x+y,-1;1:3yy ";
             for (int k = 0; k < wants.length; k++) {
                 s.due("of the first " + k + " bytes of " + text, x.fault(), wants[k]);
                 s.due("asked once more", x.fault(), wants[k]);
                 x.write(k < text.length() ? text.charAt(k) : ' ');
             }
+            x.erase();
+            s.due("of another text", Check.write(x, "1:5+x+y").fault(), NONE);
         });
         s.promise(4, "NONE if it has none.", () -> {
             s.fault("0:x", NONE);
@@ -383,6 +392,14 @@ final class TextSentences {
             s.due("curve 0 keeps one", x.count(0, 0), 1);
             s.due("its c", x.term(0, 0, 0), 9);
             s.due("curve 1 has three", x.count(1, 0), 3);
+            x.put(1, 4, 0, 1);
+            Check.write(x, "0:7").curves();
+            s.due("curve 1 keeps also what was put", x.count(1, 0), 4);
+            x.put(0, 4, 0, 1);
+            Check.write(x, "1:7").curves();
+            s.due("curve 0 keeps also what was put", x.count(0, 0), 2);
+            keepsBesideFault(0);
+            keepsBesideFault(1);
         });
         s.promise(5, "@return the number of clauses;", () -> {
             s.due("1", Check.write(new LeastCurves(), "0:x").curves(), 1);
@@ -401,6 +418,16 @@ final class TextSentences {
             s.due("25 clauses", Check.write(new LeastCurves(), clauses(25)).curves(), NOT);
             s.due("no text", new LeastCurves().curves(), NOT);
         });
+    }
+
+    /** The clauses of a text with a fault do not count, also if another text is applied later. */
+    private void keepsBesideFault(int curve) {
+        LeastCurves x = Check.made("0:1,x;1:2,y");
+        Check.write(x, curve + ":5+2x,6;" + (1 - curve) + ":z").curves();
+        x.erase();
+        Check.write(x, (1 - curve) + ":8").curves();
+        s.due("terms of curve " + curve, x.count(curve, 0), 2);
+        s.due("c of curve " + curve, x.term(curve, 0, 0), curve + 1);
     }
 
     private void promise5CurvesForget() {
