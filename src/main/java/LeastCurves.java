@@ -1462,7 +1462,7 @@ public final class LeastCurves {
         }
 
         private void shorten(int from, int to, long length) {
-            if (farTo(from) < 0 || to < 0 || to >= far.length) {
+            if (farTo(from) < 0 || to < 0 || to >= far.length || to >= steps.length) {
                 return;
             }
             long reached = farTo(from) + length;
